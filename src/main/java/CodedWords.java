@@ -369,7 +369,10 @@ public final class CodedWords {
         return high;
     }
 
-    /** WEIGHT of a number that is not below 0: its signed digits are 3 v less v, halved, so they are not 0 where these two differ. */
+    /**
+     * WEIGHT of a number that is not below 0. Bit by bit, 3 v less v gives the signed digits of
+     * 2 v, no two side by side both not 0; so the digits are not 0 where 3 v and v differ.
+     */
     private static int digitsNotZero(int v) {
         return Integer.bitCount(v ^ (3 * v));
     }

@@ -124,8 +124,6 @@ public final class FaceTest {
         while (imports.find()) {
             CHECK.holds("import " + imports.group(1), imports.group(1).equals("java.util.Arrays"));
         }
-        for (int i = 0; i < text.length(); i++) {
-            CHECK.holds("the source is plain ASCII at " + i, text.charAt(i) < 128);
-        }
+        CHECK.holds("the source is plain ASCII", text.chars().allMatch(sign -> sign < 128));
     }
 }
