@@ -526,9 +526,12 @@ public final class CodedWords {
             return rest(valueOf(word), RESIDUES_BY);
         }
 
-        /** Whether a WORD is one that a SET could have put, whatever its RESIDUE. */
+        /**
+         * Whether a WORD is one that a SET could have put, whatever its RESIDUE. A times a VALUE in
+         * reach is -TOP to TOP, so of a WORD that FITS it is enough to look at the WORD itself.
+         */
         boolean isSound(int word) {
-            return fits(word) && reaches(valueOf(word));
+            return fits(word) && word >= -top() && word <= top();
         }
 
         boolean isRight(int word, int residue) {
@@ -550,17 +553,13 @@ public final class CodedWords {
             return fits(word) && valueOf(word) % 2 == 0;
         }
 
-        boolean isCause(int strike, int r) {
-            return isRight(wordOf(r) - change(strike), residueOf(r));
-        }
-
         int causesOf(int r) {
             if (isSound(wordOf(r))) {
                 return 0;
             }
             int causes = 0;
             for (int strike = 0; strike < strikeCount(); strike++) {
-                if (isCause(strike, r)) {
+                if (isRight(wordOf(r) - change(strike), residueOf(r))) {
                     causes++;
                 }
             }
@@ -573,7 +572,7 @@ public final class CodedWords {
                 return NONE;
             }
             for (int strike = 0; strike < strikeCount(); strike++) {
-                if (isCause(strike, r)) {
+                if (isRight(wordOf(r) - change(strike), residueOf(r))) {
                     return strike;
                 }
             }

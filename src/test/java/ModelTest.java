@@ -1,5 +1,6 @@
 import java.lang.reflect.InvocationTargetException;
 import java.lang.reflect.Method;
+import java.lang.reflect.Modifier;
 import java.util.Arrays;
 import java.util.HashMap;
 import java.util.Map;
@@ -9,8 +10,9 @@ import java.util.Random;
 public final class ModelTest {
     private static final Check CHECK = new Check();
     private static final int RUNS = 1500;
-    private static final int CALLS = 512;
-    private static final int[] WILD = {Integer.MIN_VALUE, Integer.MIN_VALUE + 1, -1000000, -100000, -1, 0, 1, 2, 15, 16, 17, 31,
+    /** With the 32 that ask for all registers at the end, the 512 that an object is used for. */
+    private static final int CALLS = 480;
+    private static final int[] WILD = {Integer.MIN_VALUE, Integer.MIN_VALUE + 1, -1000000, -100000, -1, 0, 1, 2, 3, 4, 5, 6, 7, 8, 9, 13, 14, 15, 16, 17, 31,
         32, 33, 63, 64, 199, 200, 201, 9999, 10000, 65535, 65536, 99999, 100000, Integer.MAX_VALUE - 1, Integer.MAX_VALUE};
 
     /** How often each call is drawn; those that wipe much out, or that the model is slow in, come seldom. */
@@ -37,8 +39,10 @@ public final class ModelTest {
     }
 
     public static void main(String[] args) throws ReflectiveOperationException {
+        allWeights();
         allConstants();
         allCodes();
+        allWild();
         for (int seed = 1; seed <= RUNS; seed++) {
             new ModelTest(seed).runs();
         }
@@ -62,19 +66,26 @@ public final class ModelTest {
         return all.toString().split(" ");
     }
 
-    private static void allConstants() {
-        CodedWords words = new CodedWords();
+    private static void allWeights() {
         SlowModel model = new SlowModel();
+        CodedWords words = new CodedWords();
         for (int v = -100002; v <= 100002; v++) {
+            words = v % 500 == 0 ? new CodedWords() : words;
             CHECK.due("weight(" + v + ")", words.weight(v), model.weight(v));
         }
+    }
+
+    private static void allConstants() {
+        SlowModel model = new SlowModel();
         for (int a = -1; a <= 203; a++) {
+            CodedWords words = new CodedWords();
             CHECK.due("round(" + a + ")", words.round(a), model.round(a));
             for (int width = 2; width <= 18; width++) {
                 CHECK.due("plain(" + a + ", " + width + ")", words.plain(a, width), model.plain(a, width));
                 CHECK.due("distance(" + a + ", " + width + ")", words.distance(a, width), model.distance(a, width));
             }
         }
+        CodedWords words = new CodedWords();
         for (int d = -1; d <= 7; d++) {
             for (int width = 2; width <= 18; width++) {
                 CHECK.due("least(" + d + ", " + width + ")", words.least(d, width), model.least(d, width));
@@ -106,6 +117,46 @@ public final class ModelTest {
             CHECK.due(at + "odds(" + t + ", 0)", words.odds(t, 0), model.odds(t, 0));
             CHECK.due(at + "odds(" + t + ", 1)", words.odds(t, 1), model.odds(t, 1));
         }
+    }
+
+    /** Every call with every row of numbers that are edges somewhere, or far out. */
+    private static void allWild() throws ReflectiveOperationException {
+        for (String name : OF_CLASS.keySet()) {
+            Method method = OF_CLASS.get(name);
+            if (!Modifier.isPublic(method.getModifiers())) {
+                continue;
+            }
+            int many = method.getParameterCount();
+            int rows = (int) Math.pow(WILD.length, many);
+            ModelTest test = null;
+            for (int row = 0; row < rows; row++) {
+                if (row % 400 == 0) {
+                    test = new ModelTest(-row / 400);
+                    test.startWild(row / 400);
+                }
+                int[] numbers = new int[many];
+                for (int i = 0, left = row; i < many; i++, left /= WILD.length) {
+                    numbers[i] = WILD[left % WILD.length];
+                }
+                test.compare(row, name, numbers);
+            }
+        }
+    }
+
+    private void startWild(int which) throws ReflectiveOperationException {
+        int[][] codes = {{13, 9}, {3, 4}, {199, 16}, {15, 4}, {7, 16}};
+        int[] code = codes[which % codes.length];
+        compare(0, "codes", code);
+        compare(0, "sets", 0, model.count(3));
+        compare(0, "sets", 1, -model.count(3));
+        for (int i = 0; i < 3; i++) {
+            compare(0, "strikes", 0, 2 * code[1] - 2);
+            compare(0, "strikes", 1, 2 * code[1] - 1);
+        }
+        compare(0, "strikes", 2, 0);
+        compare(0, "bends", 3, 14);
+        compare(0, "keep", which % 2);
+        compare(0, "sees", 315, 1);
     }
 
     private void runs() throws ReflectiveOperationException {
@@ -156,7 +207,7 @@ public final class ModelTest {
             case "sees":
                 return row(anySeen(), number(0, 1));
             case "same":
-                return row(number(0, words.count(0) - 1), number(0, 1));
+                return row(number(0, model.count(0) - 1), number(0, 1));
             case "odds":
                 return row(number(1, 2), number(0, 1));
             case "weight":
@@ -190,14 +241,14 @@ public final class ModelTest {
     }
 
     private int anyValue() {
-        int reach = words.count(3);
+        int reach = model.count(3);
         int near = random.nextInt(4) == 0 ? reach : Math.min(reach, 12);
         return number(-near, near);
     }
 
     /** The highest bit comes often, so that words go out of reach. */
     private int anyStrike() {
-        int last = 2 * words.count(1) - 1;
+        int last = 2 * model.count(1) - 1;
         return random.nextInt(3) == 0 ? last - random.nextInt(2) : number(0, last);
     }
 
