@@ -385,8 +385,9 @@ public final class CodedWords {
     private static int lightestMultiple(int a, int width, int tooLight) {
         int end = 1 << width;
         int lightest = NONE;
-        // Twice a number weighs as much as the number, so the odd multiples are enough.
-        for (int n = a; n < end; n += 2 * a) {
+        // Twice a number weighs as much as the number, so the odd multiples are enough. Where n is
+        // above 0, a is too: so the loop ends whatever a is.
+        for (int n = a; n > 0 && n < end; n += 2 * a) {
             int weighs = digitsNotZero(n);
             if (lightest == NONE || weighs < lightest) {
                 lightest = weighs;
